@@ -123,6 +123,10 @@ public final class ProgramsTest {
         spanIs(x, 4, 0, 0, -131072, 262144);
         spanIs(x, 4, 1, 1, 589824, 1048576);
         spanIs(x, 4, 1, 2, -131072, -98304);
+        spanIs(x, 4, 1, 0, -524288, 262144);
+        spanIs(x, 4, 3, 3, 65536, 262144);
+        spanIs(x, 4, 1, 3, -524288, -196608);
+        spanIs(x, 4, 3, 0, -131072, 262144);
         spanIs(x, 5, 0, 1, -65536, 131072);
         spanIs(x, 5, 0, 2, 32768, 131072);
         spanIs(x, 6, 0, 0, 0, 131072);
@@ -156,6 +160,11 @@ public final class ProgramsTest {
         Check.due("P9 product just within", x.about(10, 8), 67108864);
         Check.due("P4 product just beyond", x.work(4, 0, 9), -4);
         Check.due("P4 refusals change nothing", x.count(0), 11);
+        x.work(4, 5, 5);
+        x.work(4, 11, 11);
+        Check.due("P13 1 unit", x.exact(12), 1);
+        Check.due("P4 1 unit above the most", x.work(2, 4, 12), -4);
+        Check.due("P4 1 unit below the least", x.work(3, 4, 12), -4);
     }
 
     private static void fullPrograms() {
@@ -173,6 +182,7 @@ public final class ProgramsTest {
         Check.due("P5 one gone", x.cut(15), 1);
         Check.due("P4 beyond", x.work(4, 0, 0), -4);
         Check.due("P4 the last place", x.work(2, 0, 0), 15);
+        Check.due("P9 the last place", x.about(15, 8), 2 * G);
     }
 
     private static void cuts() {

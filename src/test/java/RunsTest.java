@@ -16,6 +16,7 @@ public final class RunsTest {
         worsts();
         worstsOfThen();
         aboves();
+        fullProgram();
         Check.finish();
     }
 
@@ -141,6 +142,12 @@ public final class RunsTest {
         Check.due("P14 1 unit down", x.tuned(2), 0);
         x.rounding(2, 1);
         Check.due("P14 1 unit nearest", x.tuned(2), 2);
+        x.bits(2, 16);
+        x.work(7, 2, 0);
+        x.bits(3, 15);
+        x.rounding(3, 1);
+        Check.due("P14 a copy of 1 unit nearest", x.tuned(3), 2);
+        x.cut(3);
         x.fixed(-4096);
         x.work(4, 1, 3);
         x.bits(4, 9);
@@ -297,6 +304,7 @@ public final class RunsTest {
         Check.due("P20 of a worked one", x.worstAt(2), -2);
         Check.due("P20 of none", x.worstAt(5), -2);
         Check.due("P20 below 0", x.worstAt(-1), -2);
+        Check.due("P20 16", x.worstAt(16), -2);
         Check.due("P20 far", x.worstAt(Integer.MAX_VALUE), -2);
         Check.due("P19 INPUTS stay", x.exact(3), 4096);
         Check.due("P19 INPUTS stay", x.exact(1), 0);
@@ -368,5 +376,25 @@ public final class RunsTest {
         x.input(0, 4096 * 1000);
         Check.due("P21 above 4000 ROWS", x.above(1, 0), -5);
         Check.due("P21 BAD ahead of NOT", x.above(4, 0), -2);
+    }
+
+    private static void fullProgram() {
+        BitTuner x = new BitTuner();
+        x.input(0, 12288);
+        for (int v = 1; v < 15; v++) {
+            x.work(7, v - 1, 0);
+        }
+        x.bits(14, 3);
+        x.input(-4096, 4096);
+        Check.due("P18 full", x.rows(), 12);
+        Check.due("P19 full", x.worst(14), 4096);
+        Check.due("P20 first", x.worstAt(0), 4096);
+        Check.due("P20 last", x.worstAt(15), -4096);
+        Check.due("P21 full", x.above(14, 0), 6);
+        Check.due("P11 last", x.set(15, 4096), 1);
+        Check.due("P13 last", x.exact(15), 4096);
+        Check.due("P14 last", x.tuned(15), 4096);
+        Check.dueNumber("P16 last", x.leave(15), 0.0625);
+        Check.due("P15 beyond", x.miss(16), Check.BAD_LONG);
     }
 }

@@ -10,6 +10,7 @@ public final class WidthsTest {
         blames();
         counts();
         digests();
+        fullProgram();
         Check.finish();
     }
 
@@ -149,6 +150,8 @@ public final class WidthsTest {
         BitTuner x = chain();
         Check.due("P26 no one", x.blame(3), -1);
         Check.due("P26 of an INPUT", x.blame(0), -1);
+        x.bits(3, 15);
+        Check.due("P26 a gain of 1", x.blame(3), 3);
         x.bits(3, 8);
         Check.due("P26 third", x.blame(3), 3);
         Check.due("P26 behind", x.blame(2), -1);
@@ -206,5 +209,26 @@ public final class WidthsTest {
         Check.due("P28 again", x.digest(), h);
         x.set(0, 57344);
         Check.holds("P28 another one", x.digest() != h);
+    }
+
+    private static void fullProgram() {
+        BitTuner x = new BitTuner();
+        for (int v = 0; v < 10; v++) {
+            x.fixed(0);
+        }
+        for (int v = 10; v < 16; v++) {
+            x.work(7, v == 10 ? 0 : v - 1, 0);
+        }
+        Check.due("P27 full", x.count(3), 6);
+        Check.due("P22 full", x.least(15, 65535 * 5), 4 + 4);
+        bitsAre("P22 full", x, 9, 16, 0, 0, 0, 0, 4, 4);
+        Check.due("P22 full, exactly", x.least(15, 0), 96);
+        Check.due("P23 full", x.trim(15, 65535 * 5 + 7), 13);
+        bitsAre("P23 full", x, 10, 0, 0, 0, 0, 0, 13);
+        Check.due("P24 full", x.floor(15), 0);
+        Check.due("P25 full", x.gain(15, 15), 7);
+        Check.due("P26 full", x.blame(15), 10);
+        Check.due("P10 full", x.price(), 13);
+        Check.due("P27 full", x.count(0), 16);
     }
 }
