@@ -666,7 +666,6 @@ public final class BitTuner {
             if (program.workedOnes() > MOST_CHOSEN) {
                 return NOT;
             }
-            tryWidest();
             cheapestPrice = Integer.MAX_VALUE;
             choose(0, 0, v, m);
             if (cheapestPrice == Integer.MAX_VALUE) {

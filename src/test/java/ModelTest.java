@@ -2,9 +2,11 @@ import java.util.Random;
 
 /** Random runs of calls, answered by the class and by the Model; the seeds are fixed. */
 public final class ModelTest {
-    private static final int CALLS = 120;
-    private static final double[] NUMBERS = {0.0, -0.0, 0.0625, -0.0625, 1.0, -1.0, 2.5, 64.0, -64.0, 64.0625, 0.03125,
-        Double.NaN, Double.POSITIVE_INFINITY, Double.NEGATIVE_INFINITY, Double.MIN_VALUE, Double.MAX_VALUE, 1e18, 4096.0};
+    /** What an object answers after its 512th call is free; the rest is for one round more and for soundBounds(). */
+    private static final int CALLS = 512 - 12 - 32;
+    private static final double[] NUMBERS = {0.0, -0.0, 0.0625, -0.0625, 1.0, -1.0, 2.5, 64.0, -64.0, 64.0625,
+        0.03125, 4096.0, Double.NaN, Double.POSITIVE_INFINITY, Double.NEGATIVE_INFINITY, Double.MIN_VALUE,
+        Double.MAX_VALUE, 1e18};
     private static final int[] EDGES = {-1, 0, 1, 2, 15, 16, 17, 4095, 4096, 4194304, -4194304, 4198400,
         Integer.MIN_VALUE, Integer.MAX_VALUE};
 
@@ -14,6 +16,7 @@ public final class ModelTest {
     private final Model y = new Model();
     /** How wide INPUTS are at most, in steps: few make ROWS few, many make ends great. */
     private final int widest;
+    private int asked = 0;
 
     private ModelTest(int run) {
         this.run = run;
@@ -22,7 +25,7 @@ public final class ModelTest {
     }
 
     public static void main(String[] args) {
-        int runs = args.length > 0 ? Integer.parseInt(args[0]) : 400;
+        int runs = args.length > 0 ? Integer.parseInt(args[0]) : 600;
         for (int run = 0; run < runs && Check.wrongSoFar() < 20; run++) {
             new ModelTest(run).go();
         }
@@ -31,7 +34,7 @@ public final class ModelTest {
 
     private void go() {
         int before = Check.wrongSoFar();
-        for (int call = 0; call < CALLS && Check.wrongSoFar() == before; call++) {
+        for (int round = 0; asked < CALLS && Check.wrongSoFar() == before; round++) {
             int which = random.nextInt(100);
             if (which < 35) {
                 build();
@@ -42,14 +45,15 @@ public final class ModelTest {
             } else {
                 search();
             }
-            if (call % 10 == 0) {
+            if (round % 10 == 0) {
                 due("digest()", x.digest(), y.digest());
             }
-            soundBounds();
         }
+        soundBounds();
     }
 
     private void due(String call, long got, long want) {
+        asked++;
         Check.due("run " + run + ": " + call, got, want);
     }
 
@@ -59,7 +63,7 @@ public final class ModelTest {
 
     /** A VALUE's number, now and then one that is none. */
     private int value() {
-        return random.nextInt(20) == 0 ? edge() : random.nextInt(x.count(0) + 1);
+        return random.nextInt(20) == 0 ? edge() : random.nextInt(y.count(0) + 1);
     }
 
     private int units() {
@@ -78,7 +82,7 @@ public final class ModelTest {
         int a = value();
         int b = value();
         int which = random.nextInt(12);
-        if (which == 0 || x.count(0) == 0) {
+        if (which == 0 || y.count(0) == 0) {
             int low = units();
             int high = random.nextBoolean() ? low + random.nextInt(4) * 4096 : units();
             due("input(" + low + ", " + high + ")", x.input(low, high), y.input(low, high));
@@ -125,6 +129,7 @@ public final class ModelTest {
         due("exact(" + v + ")", x.exact(v), y.exact(v));
         due("tuned(" + v + ")", x.tuned(v), y.tuned(v));
         due("miss(" + v + ")", x.miss(v), y.miss(v));
+        asked += 2;
         Check.dueNumber("run " + run + ": leave(" + v + ")", x.leave(v), y.leave(v));
         Check.dueNumber("run " + run + ": narrow(" + v + ")", x.narrow(v), y.narrow(v));
         due("price()", x.price(), y.price());
@@ -165,7 +170,7 @@ public final class ModelTest {
 
     /** What the document says of THE BOUND as a whole: it holds for every run. */
     private void soundBounds() {
-        for (int v = 0; v < x.count(0); v++) {
+        for (int v = 0; v < y.count(0); v++) {
             long bound = x.about(v, 9);
             Check.holds("run " + run + ": the bound of " + v, bound == 1073741824 || x.miss(v) <= bound);
         }

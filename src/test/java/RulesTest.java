@@ -61,8 +61,8 @@ public final class RulesTest {
     private static void madeOnlyByConstructors(String code) {
         int inAll = count(code, "\\bnew\\b");
         int inConstructors = 0;
-        Matcher constructor = Pattern.compile("(?s)\\n( +)(?:public )?(BitTuner|Program|Runs|Widths)\\([^)]*\\) \\{.*?\\n\\1\\}")
-                .matcher(code);
+        Matcher constructor = Pattern.compile("(?s)\\n( +)(?:public )?(BitTuner|Program|Runs|Widths)\\([^)]*\\) \\{"
+                + ".*?\\n\\1\\}").matcher(code);
         while (constructor.find()) {
             inConstructors += count(constructor.group(), "\\bnew\\b");
         }
