@@ -6,12 +6,13 @@ import java.util.Arrays;
 import java.util.regex.Matcher;
 import java.util.regex.Pattern;
 
-/** No sentence of the document's terms and promises is without a test: each is named by one of the Edges tests. */
+/** No sentence of the document, up to "Not promised", is without a test: each is named by one of the Edges tests. */
 public final class SentencesTest {
     private static final Pattern NAMED = Pattern.compile("Sentence\\.is\\(((?:[\\s+]*\"[^\"]*\")+)\\)");
     private static final Pattern WORDS = Pattern.compile("\"([^\"]*)\"");
-    /** What of the document is no sentence: headings, fences, and the list of the calls by their kinds. */
-    private static final Pattern FRAME = Pattern.compile("## Terms|## Promise \\d+: [A-Za-z ]+|```(?:text)?"
+    /** What of the document is no sentence: headings, fences, the face (FaceTest), the list of the calls by kinds. */
+    private static final Pattern FRAME = Pattern.compile("# BitTuner ## What it is|## The public face ```java.*?```"
+            + "|## Terms|## Promise \\d+: [A-Za-z ]+|```(?:text)?"
             + "|======== \\d|Ahead of the calls (?:`\\w+`,? )+the interface says: ---- \\w+\\.");
 
     public static void main(String[] args) throws IOException {
@@ -22,11 +23,10 @@ public final class SentencesTest {
                 markAll(document, Files.readString(file), isNamed);
             }
         }
-        int from = document.indexOf("## Terms");
         int to = document.indexOf("## Not promised");
-        Check.holds("that the document has terms and promises", from >= 0 && to > from);
+        Check.holds("that the document has terms and promises", document.indexOf("## Terms") >= 0 && to >= 0);
         StringBuilder left = new StringBuilder();
-        for (int i = from; i < to; i++) {
+        for (int i = 0; i < to; i++) {
             left.append(isNamed[i] ? '\n' : document.charAt(i));
         }
         for (String words : FRAME.matcher(left).replaceAll("\n").split("\n+")) {
